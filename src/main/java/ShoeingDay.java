@@ -32,6 +32,7 @@ public final class ShoeingDay {
     private final Parting parting = new Parting();
     private final ToldRounds toldRounds = new ToldRounds();
     private final Sights sights = new Sights();
+    private final int[] smithSums = new int[MOST_SMITHS];
     private Yard told = new Yard();
     private int taped = 0;
     private int time = 0;
@@ -143,24 +144,13 @@ public final class ShoeingDay {
     }
 
     public int even() {
-        int most = 0;
-        for (int set = 1; set < 1 << told.smiths; set++) {
-            most = Math.max(most, mustDo(set));
-        }
-        return most;
+        sumSmiths();
+        return mustDo(busiestSet());
     }
 
     public int proof() {
-        int most = 0;
-        int least = 0;
-        for (int set = 1; set < 1 << told.smiths; set++) {
-            int each = mustDo(set);
-            if (each > most) {
-                most = each;
-                least = set;
-            }
-        }
-        return least;
+        sumSmiths();
+        return busiestSet();
     }
 
     public int run(int quarters) {
@@ -338,13 +328,33 @@ public final class ShoeingDay {
         lackIsNew();
     }
 
+    private void sumSmiths() {
+        for (int smith = 0; smith < told.smiths; smith++) {
+            smithSums[smith] = now.ofSmith(smith);
+        }
+    }
+
+    /** The least set whose smiths must do most: no way to lend can do with less, and some way needs no more. */
+    private int busiestSet() {
+        int most = 0;
+        int first = 0;
+        for (int set = 1; set < 1 << told.smiths; set++) {
+            int each = mustDo(set);
+            if (each > most) {
+                most = each;
+                first = set;
+            }
+        }
+        return first;
+    }
+
     /** What each of a set must do at least, if they part evenly what nobody outside it may work. */
     private int mustDo(int set) {
         int work = 0;
         for (int smith = 0; smith < told.smiths; smith++) {
             int may = told.standIns[smith] | 1 << smith;
             if ((may & ~set) == 0) {
-                work += now.ofSmith(smith);
+                work += smithSums[smith];
             }
         }
         int heads = Integer.bitCount(set);
@@ -707,24 +717,22 @@ public final class ShoeingDay {
         }
 
         private int takeSmith() {
-            if (!take(Reader.NAME)) {
+            return take(Reader.NAME) ? knownSmith() : NONE;
+        }
+
+        private int takeMaster() {
+            int smith = take(Reader.NAME) ? knownSmith() : NONE;
+            if (smith != NONE && (sheet.masters >> smith & 1) == 0) {
+                refuse(NO_MASTER);
                 return NONE;
-            }
-            int smith = sheet.smithNamed(reader.word);
-            if (smith == NONE) {
-                refuse(UNKNOWN);
             }
             return smith;
         }
 
-        private int takeMaster() {
-            int smith = takeSmith();
+        private int knownSmith() {
+            int smith = sheet.smithNamed(reader.word);
             if (smith == NONE) {
-                return NONE;
-            }
-            if ((sheet.masters >> smith & 1) == 0) {
-                refuse(NO_MASTER);
-                return NONE;
+                refuse(UNKNOWN);
             }
             return smith;
         }
@@ -1182,22 +1190,15 @@ public final class ShoeingDay {
             horses = ledger.horses;
             System.arraycopy(ledger.lacked, 0, left, 0, MOST_PAIRS);
             for (int day = 0; day < n; day++) {
-                cutDay(day, n - day);
+                giveWhole(day, n - day);
+                boundSums(day, n - day);
+                raiseLows();
+                lowerInOrder();
+                giveExtra(day);
             }
         }
 
-        private void cutDay(int day, int m) {
-            if (m < 1) {
-                return;
-            }
-            giveWhole(day, m);
-            boundSums(day, m);
-            raiseLows();
-            for (int smith = 0; smith < smiths; smith++) {
-                for (int may = loose[smith]; may != 0; may &= may - 1) {
-                    fix(smith, lowest(may));
-                }
-            }
+        private void giveExtra(int day) {
             for (int smith = 0; smith < smiths; smith++) {
                 for (int rest = extra[smith]; rest != 0; rest &= rest - 1) {
                     shares[day * MOST_PAIRS + cellOf(smith, lowest(rest))]++;
@@ -1259,14 +1260,6 @@ public final class ShoeingDay {
             }
         }
 
-        private boolean canRise(int node) {
-            return flow[node] < high[node];
-        }
-
-        private boolean canFall(int node) {
-            return flow[node] > low[node];
-        }
-
         /** From no flow at all to one in which nothing is below its bound. */
         private void raiseLows() {
             for (int smith = 0; smith < smiths; smith++) {
@@ -1288,12 +1281,16 @@ public final class ShoeingDay {
             }
         }
 
-        /** The pair has no more than its share, cut, if the others can be so; it is not touched again. */
-        private void fix(int smith, int horse) {
-            int bit = 1 << horse;
-            loose[smith] &= ~bit;
-            if ((extra[smith] & bit) != 0 && sendOne(smith, MOST_SMITHS + horse)) {
-                extra[smith] &= ~bit;
+        /** Pair by pair: it has no more than its share, cut, if the others can be so; it is not touched again. */
+        private void lowerInOrder() {
+            for (int smith = 0; smith < smiths; smith++) {
+                for (int may = loose[smith]; may != 0; may &= may - 1) {
+                    int bit = may & -may;
+                    loose[smith] &= ~bit;
+                    if ((extra[smith] & bit) != 0 && sendOne(smith, MOST_SMITHS + lowest(may))) {
+                        extra[smith] &= ~bit;
+                    }
+                }
             }
         }
 
@@ -1336,7 +1333,7 @@ public final class ShoeingDay {
         private int reach(int node) {
             if (node < MOST_SMITHS) {
                 int nodes = (loose[node] & ~extra[node]) << MOST_SMITHS;
-                return canFall(node) ? nodes | 1 << SOURCE : nodes;
+                return flow[node] > low[node] ? nodes | 1 << SOURCE : nodes;
             }
             if (node < SOURCE) {
                 return reachOfHorse(node - MOST_SMITHS);
@@ -1345,7 +1342,8 @@ public final class ShoeingDay {
         }
 
         private int reachOfHorse(int horse) {
-            int nodes = canRise(MOST_SMITHS + horse) ? 1 << DRAIN : 0;
+            int node = MOST_SMITHS + horse;
+            int nodes = flow[node] < high[node] ? 1 << DRAIN : 0;
             for (int smith = 0; smith < smiths; smith++) {
                 if ((loose[smith] & extra[smith] & 1 << horse) != 0) {
                     nodes |= 1 << smith;
@@ -1355,9 +1353,9 @@ public final class ShoeingDay {
         }
 
         private int reachOfSource() {
-            int nodes = canFall(WHOLE) ? 1 << DRAIN : 0;
+            int nodes = flow[WHOLE] > low[WHOLE] ? 1 << DRAIN : 0;
             for (int smith = 0; smith < smiths; smith++) {
-                if (canRise(smith)) {
+                if (flow[smith] < high[smith]) {
                     nodes |= 1 << smith;
                 }
             }
@@ -1365,10 +1363,10 @@ public final class ShoeingDay {
         }
 
         private int reachOfDrain() {
-            int nodes = canRise(WHOLE) ? 1 << SOURCE : 0;
-            for (int horse = 0; horse < horses; horse++) {
-                if (canFall(MOST_SMITHS + horse)) {
-                    nodes |= 1 << (MOST_SMITHS + horse);
+            int nodes = flow[WHOLE] < high[WHOLE] ? 1 << SOURCE : 0;
+            for (int node = MOST_SMITHS; node < MOST_SMITHS + horses; node++) {
+                if (flow[node] > low[node]) {
+                    nodes |= 1 << node;
                 }
             }
             return nodes;
