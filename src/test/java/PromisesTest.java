@@ -260,6 +260,14 @@ public final class PromisesTest {
         faulty(yard + "lends a c;", 6, 67);
         faulty(yard + "lends d a;", 5, 65);
         faulty(yard + "lends a d;", 5, 67);
+        ShoeingDay x = told(yard + "lends a b;");
+        put(x, "smith a wage 1;smith b master wage 1;lends a b;");
+        due("yard where a is no master any more", x.yard(), NONE);
+        due("fault(0)", x.fault(0), 6);
+        due("fault(1)", x.fault(1), 43);
+        put(x, yard + "horse x;hours a x 4;");
+        due("yard where nobody lends any more", x.yard(), 3);
+        due("even", x.even(), 4);
     }
 
     private static void faultsOfCount() {
