@@ -104,6 +104,10 @@ public final class LanguageTest {
         for (String method : FACE) {
             face.add(method.substring(0, method.indexOf('(')));
         }
+        for (Method method : ShoeingDay.class.getDeclaredMethods()) {
+            boolean hidden = !Modifier.isPublic(method.getModifiers());
+            must(!hidden || !face.contains(method.getName()), method + " bears the name of a public one");
+        }
         for (Class<?> inner : ShoeingDay.class.getDeclaredClasses()) {
             for (Method method : inner.getDeclaredMethods()) {
                 must(!face.contains(method.getName()), method + " bears the name of a public one");

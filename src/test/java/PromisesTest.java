@@ -1,14 +1,6 @@
 /** Each promise with answers reckoned by hand from the document: ordinary inputs, its edges, wrong inputs. */
-public final class PromisesTest {
-    private static final int NONE = ShoeingDay.NONE;
-    private static final long ALL_HOURS = (1L << 41) - 1;
-    private static final String TWO = "smith a wage 2;smith b wage 3;horse x;horse y;"
-            + "hours a x 2;hours a y 1;hours b x 1;hours b y 3;late 3;";
-    private static int wrong = 0;
-    private static String promise = "";
-
+public final class PromisesTest extends Kit {
     public static void main(String[] args) {
-        newObject();
         feedAndEnd();
         yardStartsAnew();
         yardThatFails();
@@ -35,75 +27,7 @@ public final class PromisesTest {
         fitsAsKnown();
         imageAndBack();
         about();
-        System.out.println(wrong == 0 ? "all promises are kept" : wrong + " answers are not as due");
-        if (wrong != 0) {
-            System.exit(1);
-        }
-    }
-
-    private static void due(String call, long got, long want) {
-        if (got != want) {
-            wrong++;
-            System.out.println(promise + ": " + call + " answered " + got + ", due is " + want);
-        }
-    }
-
-    private static void due(String call, boolean got, boolean want) {
-        due(call, got ? 1 : 0, want ? 1 : 0);
-    }
-
-    private static int four(String text, int at) {
-        int number = 0;
-        for (int i = at; i < at + 4; i++) {
-            number = number << 8 | (i < text.length() ? text.charAt(i) & 255 : 32);
-        }
-        return number;
-    }
-
-    private static void put(ShoeingDay x, String text) {
-        x.end(0);
-        for (int at = 0; at < text.length(); at += 20) {
-            x.feed(four(text, at), four(text, at + 4), four(text, at + 8), four(text, at + 12), four(text, at + 16));
-        }
-        due("end behind [" + text + "]", x.end(text.length()), text.length());
-    }
-
-    private static ShoeingDay told(String text) {
-        ShoeingDay x = new ShoeingDay();
-        put(x, text);
-        due("yard of [" + text + "]", x.yard() != NONE, true);
-        return x;
-    }
-
-    private static void good(String text, int smiths) {
-        ShoeingDay x = new ShoeingDay();
-        put(x, text);
-        due("yard of [" + text + "]", x.yard(), smiths);
-        due("fault(0) of [" + text + "]", x.fault(0), 0);
-        due("fault(1) of [" + text + "]", x.fault(1), NONE);
-    }
-
-    private static void faulty(String text, int kind, int place) {
-        ShoeingDay x = new ShoeingDay();
-        put(x, text);
-        due("yard of [" + text + "]", x.yard(), NONE);
-        due("fault(0) of [" + text + "]", x.fault(0), kind);
-        due("fault(1) of [" + text + "]", x.fault(1), place);
-    }
-
-    private static void newObject() {
-        promise = "promise 1";
-        ShoeingDay x = new ShoeingDay();
-        for (int what = 0; what <= 9; what++) {
-            due("about(" + what + ")", x.about(what), 0);
-        }
-        due("about(10)", x.about(10), NONE);
-        due("fault(0)", x.fault(0), 0);
-        due("fault(1)", x.fault(1), NONE);
-        due("lacks", x.lacks(0, 0), NONE);
-        due("undo", x.undo(), false);
-        due("back", x.back(0), NONE);
-        due("NONE", NONE, -1);
+        finish("all promises are kept");
     }
 
     private static void feedAndEnd() {
@@ -328,13 +252,6 @@ public final class PromisesTest {
         due("least", x.least(), 0);
         due("busy(false)", x.busy(false), 3);
         due("busy(true)", x.busy(true), 3);
-    }
-
-    private static void roundIs(ShoeingDay x, int i, int lasts, int... horses) {
-        due("lasts(" + i + ")", x.lasts(i), lasts);
-        for (int smith = 0; smith < horses.length; smith++) {
-            due("with(" + i + ", " + smith + ")", x.with(i, smith), horses[smith]);
-        }
     }
 
     private static void roundsOfTheDay() {
@@ -588,12 +505,6 @@ public final class PromisesTest {
         due("pair of no horse", x.pair(0, 2), NONE);
         due("pair of none", x.pair(-1, -1), NONE);
         due("pair", x.pair(0, 0), 1);
-    }
-
-    private static void judgedAs(ShoeingDay x, int first, int lacked, int lasted) {
-        due("judge(0)", x.judge(0), first);
-        due("judge(1)", x.judge(1), lacked);
-        due("judge(2)", x.judge(2), lasted);
     }
 
     private static void judged() {

@@ -20,7 +20,7 @@ public final class RoomTest {
         // The question itself makes objects: as many as are seen between two that follow at once.
         long own = -allocated() + allocated();
         long before = allocated();
-        for (int i = 0; i < 15; i++) {
+        for (int i = 0; i < 10; i++) {
             everyCall(x);
         }
         long made = allocated() - before - own;

@@ -66,21 +66,13 @@ public final class WildCallsTest {
 
     private void tell(String text) {
         for (int at = 0; at < text.length(); at += 20) {
-            x.feed(four(text, at), four(text, at + 4), four(text, at + 8), four(text, at + 12), four(text, at + 16));
+            Kit.feed(x, text, at);
         }
         x.end(text.length());
         if (x.yard() != 8) {
             wrong++;
             System.out.println("the full yard was refused: " + x.fault(0) + " at " + x.fault(1));
         }
-    }
-
-    private static int four(String text, int at) {
-        int number = 0;
-        for (int i = at; i < at + 4; i++) {
-            number = number << 8 | (i < text.length() ? text.charAt(i) & 255 : 32);
-        }
-        return number;
     }
 
     private int oneCall() {
