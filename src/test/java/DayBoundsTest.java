@@ -32,6 +32,7 @@ public final class DayBoundsTest extends Kit {
         partedNoPairAboveItsShare();
         partedNoSmithAboveHisShare();
         partedNoHorseAboveItsShare();
+        partedNoHorseBelowItsShare();
         partedNotAboveTheShareOfAll();
         allIsOfNow();
         evenWithoutSmiths();
@@ -462,6 +463,15 @@ public final class DayBoundsTest extends Kit {
         x = told(smiths(3) + horses(4) + "hours a a 1;hours a d 1;hours b b 1;hours b d 1;hours c c 1;hours c d 1;");
         partsAre(x, 2, 0, 0, 0, 0, 1, 0, 0, 0, 1, 0, 0, 1, 0);
         partsAre(x, 2, 1, 1, 0, 0, 0, 0, 1, 0, 0, 0, 0, 0, 1);
+    }
+
+    private static void partedNoHorseBelowItsShare() {
+        promise = "Terms 2, PARTED: of each HORSE no less than its share, cut";
+        // the first horse's day has 2 of 6, though smiths and all together could do with less of it
+        ShoeingDay x = told(smiths(3) + horses(2) + "hours a a 2;hours a b 2;hours b a 2;hours c a 2;");
+        partsAre(x, 3, 0, 0, 1, 1, 0, 1, 0);
+        partsAre(x, 3, 1, 1, 0, 0, 0, 1, 0);
+        partsAre(x, 3, 2, 1, 1, 1, 0, 0, 0);
     }
 
     private static void partedNotAboveTheShareOfAll() {
