@@ -105,13 +105,16 @@ public final class BothWaysTest {
         if (random.nextBoolean()) {
             text.append("late ").append(random.nextInt(60)).append(';');
         }
+        int[][] evenly = random.nextInt(3) == 0 ? evenHours(ns, nh) : null;
         int lines = 0;
         for (int s = 0; s < ns; s++) {
             for (int h = 0; h < nh; h++) {
-                if (random.nextInt(4) < fill && lines < 60 && text.length() < 1550) {
+                int quarters = evenly != null ? evenly[s][h] : random.nextInt(most + 1);
+                boolean told = evenly != null ? quarters > 0 : random.nextInt(4) < fill;
+                if (told && lines < 60 && text.length() < 1550) {
                     lines++;
                     text.append("hours ").append((char) ('a' + s)).append(' ').append((char) ('a' + h));
-                    text.append(' ').append(random.nextInt(most + 1)).append(';');
+                    text.append(' ').append(quarters).append(';');
                 }
             }
         }
@@ -125,6 +128,27 @@ public final class BothWaysTest {
             }
         }
         return text.toString();
+    }
+
+    /** Some rounds laid one upon another, so that many are busy at once and few rounds will do. */
+    private int[][] evenHours(int ns, int nh) {
+        int[][] hours = new int[ns][nh];
+        int layers = 1 + random.nextInt(7);
+        for (int i = 0; i < layers; i++) {
+            int lasts = 1 + random.nextInt(random.nextBoolean() ? 2 : 12);
+            int used = 0;
+            for (int s = 0; s < ns; s++) {
+                int h = random.nextInt(Math.max(nh, 1));
+                for (int tries = 0; tries < nh && (used >> h & 1) != 0; tries++) {
+                    h = (h + 1) % nh;
+                }
+                if (h < nh && (used >> h & 1) == 0) {
+                    used |= 1 << h;
+                    hours[s][h] += lasts;
+                }
+            }
+        }
+        return hours;
     }
 
     private String spoilt(String text) {
